@@ -14,6 +14,8 @@ public final class SwallowCount {
     private static final int MOST_RAIN = 9;
     private static final int RAIN_UNTOLD = 5;
     private static final int RAIN_OF_ONE_MORE = 8;
+    private static final int RAINS_DRAWN = 10;
+    private static final int LOWER_31_BITS = 0x7fffffff;
 
     private static final int CAT = 1, GLAZED = 2, MILL = 3;
 
@@ -42,7 +44,7 @@ public final class SwallowCount {
     private final History history = new History();
     private final Shelf images = new Shelf(IMAGES);
     private final int[] imageSeeds = new int[IMAGES];
-    private final boolean[] imageKept = new boolean[IMAGES];
+    private int imagesKept;
     private final Entries seen = new Entries(MOST_SEEN);
     private final Entries roughCounts = new Entries(MOST_ROUGH);
     private final Entries book = new Entries(MOST_WRITTEN);
@@ -73,7 +75,7 @@ public final class SwallowCount {
         draft = old;
         now.settle(land);
         history.clear();
-        Arrays.fill(imageKept, false);
+        imagesKept = 0;
         forgetEntries();
         return land.barns;
     }
@@ -427,7 +429,7 @@ public final class SwallowCount {
         }
         images.put(i, now);
         imageSeeds[i] = theSeed;
-        imageKept[i] = true;
+        imagesKept |= 1 << i;
         history.clear();
         return 1;
     }
@@ -436,7 +438,7 @@ public final class SwallowCount {
         if (i < 0 || i >= IMAGES) {
             return UNKNOWN;
         }
-        if (!imageKept[i]) {
+        if ((imagesKept >> i & 1) == 0) {
             return NOT;
         }
         images.take(i, now);
@@ -460,8 +462,8 @@ public final class SwallowCount {
 
     private int drawRain() {
         // int arithmetic wraps at 2 to the 32, so the lower 31 bits are what is left over by 2 to the 31
-        theSeed = theSeed * 1103515245 + 12345 & Integer.MAX_VALUE;
-        return theSeed / 65536 % 10;
+        theSeed = theSeed * 1103515245 + 12345 & LOWER_31_BITS;
+        return theSeed / 65536 % RAINS_DRAWN;
     }
 
     private void forgetEntries() {

@@ -97,9 +97,9 @@ public final class FaceCheck {
         String code = source.replaceAll("(?s)/\\*.*?\\*/", " ").replaceAll("//[^\n]*", " ");
         String[] never = {"throw", "throws", "try", "catch", "finally", "synchronized", "assert", "package", "native", "volatile",
             "Exception", "Error", "Random", "Thread", "System\\.(?!arraycopy)", "Arrays\\.(?!copyOf|copyOfRange|fill)", "Exact",
-            "protected", "yield", "double", "float"};
+            "protected", "yield", "double", "float", "Integer\\.(?!bitCount)", "Math\\.(?!min|max)", "boolean\\[\\]", "var"};
         for (String word : never) {
-            must(!Pattern.compile("\\b" + word + (word.endsWith(")") ? "" : "\\b")).matcher(code).find(), "no '" + word + "'");
+            must(!Pattern.compile("\\b" + word + (word.endsWith(")") || word.endsWith("]") ? "" : "\\b")).matcher(code).find(), "no '" + word + "'");
         }
         must(!code.contains("->") && !code.contains("::"), "no lambda, no method reference");
         Matcher imports = Pattern.compile("(?m)^import (.*);$").matcher(code);
