@@ -214,7 +214,7 @@ public final class SwallowCount {
         }
         trial.copyFrom(now);
         for (int k = 0; k < n; k++) {
-            trial.passYear(land, land.rainOf(trial.years));
+            passTrialYear();
         }
         int souls = soulsOf(trial, c);
         switch (what) {
