@@ -954,9 +954,9 @@ public final class SwallowCount {
 
         private boolean readTreaty(Land land) {
             at++;
-            int counties = readNumber(1, MOST_COUNTIES, OUT_OF_BOUNDS);
-            int aSeat = counties == NONE ? NONE : readNumber(1, MOST_SOULS_EACH, OUT_OF_BOUNDS);
-            int aMan = aSeat == NONE ? NONE : readNumber(1, MOST_SOULS_EACH, OUT_OF_BOUNDS);
+            int counties = readNumber(1, MOST_COUNTIES);
+            int aSeat = counties == NONE ? NONE : readNumber(1, MOST_SOULS_EACH);
+            int aMan = aSeat == NONE ? NONE : readNumber(1, MOST_SOULS_EACH);
             if (aMan == NONE) {
                 return false;
             }
@@ -968,11 +968,11 @@ public final class SwallowCount {
 
         private boolean readBarn(Land land) {
             at++;
-            int county = readNumber(0, land.counties - 1, OUT_OF_BOUNDS);
-            int eaves = county == NONE ? NONE : readNumber(0, MOST_EAVES, OUT_OF_BOUNDS);
-            int nests = eaves == NONE ? NONE : readNumber(0, eaves, ABOVE_EAVES);
-            int far = nests == NONE ? NONE : readNumber(0, MOST_FAR, OUT_OF_BOUNDS);
-            int kind = far == NONE ? NONE : readNumber(0, MILL, OUT_OF_BOUNDS);
+            int county = readNumber(0, land.counties - 1);
+            int eaves = county == NONE ? NONE : readNumber(0, MOST_EAVES);
+            int nests = eaves == NONE ? NONE : readNests(eaves);
+            int far = nests == NONE ? NONE : readNumber(0, MOST_FAR);
+            int kind = far == NONE ? NONE : readNumber(0, MILL);
             if (kind == NONE || land.barns >= MOST_BARNS) {
                 return false;
             }
@@ -989,7 +989,7 @@ public final class SwallowCount {
         private boolean readRains(Land land) {
             do {
                 at++;
-                int rain = readNumber(0, MOST_RAIN, OUT_OF_BOUNDS);
+                int rain = readNumber(0, MOST_RAIN);
                 if (rain == NONE || land.rains >= MOST_RAINS) {
                     return false;
                 }
@@ -1007,8 +1007,20 @@ public final class SwallowCount {
             return true;
         }
 
+        /** N, or NONE with its FAULT told: no EAVES are for more than MOST_EAVES, so what is above that is out of bounds. */
+        private int readNests(int eaves) {
+            nextLetter();
+            int start = at;
+            int nests = readNumber(0, MOST_EAVES);
+            if (nests > eaves) {
+                faulty(start, ABOVE_EAVES);
+                return NONE;
+            }
+            return nests;
+        }
+
         /** The NUMBER that comes next, or NONE with its FAULT told. */
-        private int readNumber(int least, int most, int faultOfBounds) {
+        private int readNumber(int least, int most) {
             int letter = nextLetter();
             if (letter < '0' || letter > '9') {
                 faulty(at, CANNOT_STAND);
@@ -1021,12 +1033,8 @@ public final class SwallowCount {
                 value = at - start < MOST_FIGURES ? value * 10 + letters[at] - '0' : value;
                 at++;
             }
-            if (at - start > MOST_FIGURES) {
+            if (at - start > MOST_FIGURES || value < least || value > most) {
                 faulty(start, OUT_OF_BOUNDS);
-                return NONE;
-            }
-            if (value < least || value > most) {
-                faulty(start, faultOfBounds);
                 return NONE;
             }
             return value;

@@ -150,8 +150,17 @@ public final class FaultRuns {
         fails("t1 1 1;b0 3 4 0 0;", 4, 12);
         fails("t1 1 1;b0 0 1 0 0;", 4, 12);
         fails("t1 1 1;b0 3  4 x", 4, 13);
-        fails("t1 1 1;b0 40 41 0 0;", 4, 13);
-        fails("t1 1 1;b0 40 999 0 0;", 4, 13);
+        fails("t1 1 1;b0 39 40 0 0;", 4, 13);
+        fails("t1 1 1;b0 0 40", 4, 12);
+    }
+
+    /** Above E and out of all bounds at one letter: the least FAULT is told. */
+    private static void whatIsAboveAllEaves() {
+        fails("t2 1 1;b0 5 50", 2, 12);
+        fails("t1 1 1;b0 40 41 0 0;", 2, 13);
+        fails("t1 1 1;b0 40  999 0 0;", 2, 14);
+        fails("t1 1 1;b0 0 041 0 0;", 2, 12);
+        fails("t1 1 1;b0 0 1000 0 0;", 2, 12);
     }
 
     private static void feeding() {
@@ -194,6 +203,7 @@ public final class FaultRuns {
         whatIsOutOfBounds();
         whatIsOneTooMany();
         whatIsAboveEaves();
+        whatIsAboveAllEaves();
         feeding();
         aFullText();
         System.out.println(wrong == 0 ? "all answers are as due" : wrong + " answers are not as due");

@@ -663,7 +663,7 @@ public final class ModelRuns {
         if (word.equals("w")) {
             return new int[] {0, 9};
         }
-        return new int[][] {{0, counties - 1}, {0, 40}, {0, 999}, {0, 9}, {0, 3}}[index];
+        return new int[][] {{0, counties - 1}, {0, 40}, {0, 40}, {0, 9}, {0, 3}}[index];
     }
 
     // ---------------------------------------------------------------- draws of the test
