@@ -108,7 +108,8 @@ final class Due {
         is(call, asked.on(one), refusal);
         SwallowCount other = new SwallowCount();
         before.play(other);
-        same(call + " changed what follows", all(one), all(other));
+        is("fault() behind " + call, one.fault(), other.fault());
+        sameFromNowOn(call, one, other);
     }
 
     /** The call answers something, and changes nothing by it. */
@@ -119,24 +120,22 @@ final class Due {
         is(call + " asked again", asked.on(one), first);
         SwallowCount other = new SwallowCount();
         before.play(other);
-        same(call + " changed what follows", all(one), all(other));
+        is("fault() behind " + call, one.fault(), other.fault());
+        sameFromNowOn(call, one, other);
     }
 
-    private static void same(String what, List<Integer> one, List<Integer> other) {
-        if (!one.equals(other)) {
+    /** Both objects are asked for all that they can tell, but for fault(), and are used up by that. */
+    static void sameFromNowOn(String call, SwallowCount one, SwallowCount other) {
+        List<Integer> ofOne = all(one);
+        List<Integer> ofOther = all(other);
+        if (!ofOne.equals(ofOther)) {
             wrong++;
-            int at = 0;
-            while (at < one.size() && at < other.size() && one.get(at).equals(other.get(at))) {
-                at++;
-            }
-            System.out.println("[" + current + "] " + what + ", first at answer " + at + "\n  " + one + "\n  " + other);
+            System.out.println("[" + current + "] " + call + " changed what follows:\n  " + ofOne + "\n  " + ofOther);
         }
     }
 
-    /** All that calls can tell of an object; it is used up by that. */
     private static List<Integer> all(SwallowCount x) {
         List<Integer> answers = new ArrayList<>();
-        answers.add(x.fault());
         addNow(x, answers);
         answers.add(x.judge());
         answers.add(x.uncounted());
