@@ -7,12 +7,6 @@ public final class BoundsOfRecords {
     private static void see() {
         Due.sentence("SEEN (8 at most): a BARN had so many NESTS (0 .. 40)");
         SwallowCount x = Due.landOf("t1 1 1;b0 9 9 9 0;b0 9 9 9 0;");
-        for (int n : new int[] {Due.LEAST, -1, 41, Due.MOST}) {
-            Due.is("see(0, " + n + ")", x.see(0, n), OUTSIDE);
-        }
-        for (int b : new int[] {Due.LEAST, -1, 2, Due.MOST}) {
-            Due.is("see(" + b + ", 0)", x.see(b, 0), UNKNOWN);
-        }
         Due.is("nothing SEEN", x.told(11), 0);
         for (int k = 1; k <= 8; k++) {
             Due.is("see", x.see(k % 2, k == 1 ? 0 : 40), k);
@@ -21,6 +15,14 @@ public final class BoundsOfRecords {
         Due.is("told(11)", x.told(11), 8);
         x.tear();
         Due.is("there is room again", x.see(0, 0), 1);
+        Due.sentence("SEEN: how much. UNKNOWN, OUTSIDE, FULL (8).");
+        for (int n : new int[] {Due.LEAST, -1, 41, Due.MOST}) {
+            Due.is("see(0, " + n + ")", x.see(0, n), OUTSIDE);
+        }
+        for (int b : new int[] {Due.LEAST, -1, 2, Due.MOST}) {
+            Due.is("see(" + b + ", 0)", x.see(b, 0), UNKNOWN);
+        }
+        Due.is("told(11)", x.told(11), 1);
     }
 
     private static void seenIsOfTheNextYear() {
@@ -106,12 +108,6 @@ public final class BoundsOfRecords {
     private static void rough() {
         Due.sentence("ROUGH counts (8 at most): a SET of BARNS had so many NESTS together (0 .. 320) now.");
         SwallowCount x = Due.landOf("t1 1 1;b0 9 9 9 0;b0 9 9 9 0;b0 9 9 9 0;");
-        for (int n : new int[] {Due.LEAST, -1, 321, Due.MOST}) {
-            Due.is("rough(7, " + n + ")", x.rough(7, n), OUTSIDE);
-        }
-        for (int set : new int[] {Due.LEAST, -8, -1, 8, 9, 256, 1 << 30, Due.MOST}) {
-            Due.is("rough(" + set + ", 0)", x.rough(set, 0), UNKNOWN);
-        }
         Due.is("none", x.told(12), 0);
         int[] sets = {0, 1, 2, 4, 7, 7, 3, 5};
         for (int k = 0; k < 8; k++) {
@@ -121,6 +117,14 @@ public final class BoundsOfRecords {
         Due.is("told(12)", x.told(12), 8);
         x.tear();
         Due.is("there is room again", x.rough(1, 0), 1);
+        Due.sentence("A ROUGH count: how many. UNKNOWN, OUTSIDE, FULL (8).");
+        for (int n : new int[] {Due.LEAST, -1, 321, Due.MOST}) {
+            Due.is("rough(7, " + n + ")", x.rough(7, n), OUTSIDE);
+        }
+        for (int set : new int[] {Due.LEAST, -8, -1, 8, 9, 256, 1 << 30, Due.MOST}) {
+            Due.is("rough(" + set + ", 0)", x.rough(set, 0), UNKNOWN);
+        }
+        Due.is("told(12)", x.told(12), 1);
         x = Due.landOf(Due.eightBarns("t1 1 1;", "b0 9 9 9 0;"));
         Due.is("all of 8", x.rough(255, 320), 1);
         Due.is("a ninth BARN", x.rough(256, 0), UNKNOWN);
@@ -180,7 +184,6 @@ public final class BoundsOfRecords {
 
     private static void uncounted() {
         Due.sentence("UNCOUNTED: BARNS whose least and most are not the same (a SET; those without any that fits, too).");
-        Due.is("no BARNS", new SwallowCount().uncounted(), 0);
         SwallowCount x = Due.landOf(Due.eightBarns("t1 1 1;", "b0 9 9 9 0;"));
         Due.is("all of 8", x.uncounted(), 255);
         x.rough(255, 72);
@@ -201,6 +204,9 @@ public final class BoundsOfRecords {
         // BARN 0 would have 6 at least, and has 5
         Due.is("the first has none that fits", x.uncounted(), 127);
         Due.is("no EAVES: it is counted", Due.landOf("t1 1 1;b0 0 0 9 0;").uncounted(), 0);
+        Due.sentence("`int uncounted()`: UNCOUNTED.");
+        Due.is("no COUNTIES", new SwallowCount().uncounted(), 0);
+        Due.is("no BARNS", Due.landOf("t1 1 1;").uncounted(), 0);
     }
 
     // ---- THE BOOK
@@ -227,7 +233,6 @@ public final class BoundsOfRecords {
     private static void judge() {
         Due.sentence("THE BOOK (15 at most) tells SOULS of COUNTIES: WRONG: the first that is otherwise now; NONE.");
         SwallowCount x = Due.landOf("t3 1 1;b0 9 4 9 0;b1 9 5 9 0;b0 9 2 9 0;");
-        Due.is("an empty one", x.judge(), NONE);
         for (int k = 0; k < 14; k++) {
             x.write(k % 3, new int[] {6, 5, 0}[k % 3]);
         }
@@ -251,6 +256,11 @@ public final class BoundsOfRecords {
         Due.is("the most", x.judge(), NONE);
         x.write(0, 319);
         Due.is("one less", x.judge(), 1);
+        Due.sentence("`int judge()`: WRONG; NONE.");
+        Due.is("no COUNTIES", new SwallowCount().judge(), NONE);
+        Due.is("an empty BOOK", Due.landOf("t1 1 1;b0 9 4 9 0;").judge(), NONE);
+        x.tear();
+        Due.is("an empty BOOK again", x.judge(), NONE);
     }
 
     private static void tear() {
@@ -283,7 +293,10 @@ public final class BoundsOfRecords {
         SwallowCount x = new SwallowCount();
         Due.is("seed(-1)", x.seed(-1), OUTSIDE);
         Due.is("seed(the least)", x.seed(Due.LEAST), OUTSIDE);
-        Due.is("0 at first", x.seed(2147483647), 0);
+        Due.sentence("BY DRAWS: THE SEED (0 at first:");
+        Due.is("a new one", new SwallowCount().seed(5), 0);
+        Due.is("refused ones leave it", x.seed(2147483647), 0);
+        Due.sentence("THE SEED becomes v (0 .. 2147483647): what it was. OUTSIDE.");
         Due.is("seed(-1)", x.seed(-1), OUTSIDE);
         Due.is("the most", x.seed(0), 2147483647);
         Due.is("0", x.seed(1), 0);

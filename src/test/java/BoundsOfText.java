@@ -160,9 +160,17 @@ public final class BoundsOfText {
         Due.is("told(6)", x.told(6), 5);
         Due.is("year(1)", x.year(1), 15);
         Due.is("told(6) a year on", x.told(6), 5);
-        Due.landIn(x, "t1 1 1;w9;");
+        for (int earlier = 1; earlier <= 3; earlier++) {
+            for (int k = 0; k < earlier; k++) {
+                Due.landIn(x, "t1 1 1;w9;");
+            }
+            Due.landIn(x, "t1 1 1;");
+            Due.is("of " + earlier + " earlier LANDS nothing stays", x.told(6), 5);
+        }
+        Due.feed(x, "t1 1 1;w9;;");
+        Due.is("land() with a FAULT", x.land(), -11);
         Due.landIn(x, "t1 1 1;");
-        Due.is("of an earlier LAND nothing stays", x.told(6), 5);
+        Due.is("of a text with a FAULT nothing stays", x.told(6), 5);
         Texts.fails("t1 1 1;w1;w1;", 3, 10);
     }
 
@@ -232,6 +240,21 @@ public final class BoundsOfText {
         Texts.fails("t1 1 1;b0 1 1 1 1", 1, 17);
         Texts.fails("t1 1 1;w1,", 1, 10);
         Texts.fails("t1 1 1" + blanks(234), 1, 240);
+        // a full text that ends in a NUMBER
+        Texts.fails(blanks(234) + "t1 1 1", 1, 240);
+        Texts.fails(blanks(233) + "t1 1 31", 2, 238);
+        // what an earlier, longer text had behind that place is none of it
+        SwallowCount x = new SwallowCount();
+        Due.feed(x, "t1 1 1111;");
+        Due.is("land()", x.land(), -12);
+        Due.feed(x, "t1 1 1");
+        Due.is("land()", x.land(), -11);
+        Due.is("fault()", x.fault(), 6);
+        Due.feed(x, "t1 1 1;");
+        x.land();
+        Due.feed(x, "t1 1 1");
+        Due.is("land()", x.land(), -11);
+        Due.is("fault()", x.fault(), 6);
     }
 
     private static void theLeast() {

@@ -2,43 +2,28 @@
 public final class BoundsOfTrials {
     private static final int NONE = Due.NONE, UNKNOWN = Due.UNKNOWN, OUTSIDE = Due.OUTSIDE;
 
-    /** Something of all that a trial could spoil. */
-    private static void begin(SwallowCount x) {
-        Due.landIn(x, "t2 3 4;b0 20 10 2 1;b1 12 9 3 0;b0 9 5 4 3;w8,3;");
-        x.keep(0);
-        x.year(1);
-        x.ring(0, 3);
-        x.open(2, false);
-        x.mud(1, 1);
-        x.seed(9);
-        x.see(0, 7);
-        x.rough(3, 20);
-        x.write(0, 12);
-        Due.feed(x, "t1");
-    }
-
     private static void nothingChanges() {
         Due.sentence("TRIED from now; nothing changes by it.");
-        Due.onlyAsks("count(0, 60, 0)", BoundsOfTrials::begin, x -> x.count(0, 60, 0));
-        Due.onlyAsks("count(1, 1, 1)", BoundsOfTrials::begin, x -> x.count(1, 1, 1));
-        Due.onlyAsks("leave(0, 0, 0)", BoundsOfTrials::begin, x -> x.leave(0, 0, 0));
-        Due.onlyAsks("leave(1, 1, 99)", BoundsOfTrials::begin, x -> x.leave(1, 1, 99));
-        Due.onlyAsks("counters(0)", BoundsOfTrials::begin, x -> x.counters(0));
-        Due.onlyAsks("game(0, 1, -1)", BoundsOfTrials::begin, x -> x.game(0, 1, -1));
-        Due.onlyAsks("game(1, 0, 0)", BoundsOfTrials::begin, x -> x.game(1, 0, 0));
-        Due.onlyAsks("leastMud(0, -1)", BoundsOfTrials::begin, x -> x.leastMud(0, -1));
-        Due.onlyAsks("leastMud(1, 1)", BoundsOfTrials::begin, x -> x.leastMud(1, 1));
-        Due.onlyAsks("moved(-1)", BoundsOfTrials::begin, x -> x.moved(-1));
-        Due.onlyAsks("moved(0)", BoundsOfTrials::begin, x -> x.moved(0));
-        Due.onlyAsks("span(0, 0)", BoundsOfTrials::begin, x -> x.span(0, 0));
-        Due.onlyAsks("uncounted()", BoundsOfTrials::begin, x -> x.uncounted());
-        Due.onlyAsks("votes(0)", BoundsOfTrials::begin, x -> x.votes(0));
-        Due.onlyAsks("elected()", BoundsOfTrials::begin, x -> x.elected());
-        Due.onlyAsks("spring(30, 1)", BoundsOfTrials::begin, x -> x.spring(30, 1));
-        Due.onlyAsks("judge()", BoundsOfTrials::begin, x -> x.judge());
-        Due.onlyAsks("told(8)", BoundsOfTrials::begin, x -> x.told(8));
-        Due.onlyAsks("barn(0, 2)", BoundsOfTrials::begin, x -> x.barn(0, 2));
-        Due.onlyAsks("fault()", BoundsOfTrials::begin, x -> x.fault());
+        Due.onlyAsks("count(0, 60, 0)", Scenes::busy, x -> x.count(0, 60, 0));
+        Due.onlyAsks("count(1, 1, 1)", Scenes::busy, x -> x.count(1, 1, 1));
+        Due.onlyAsks("leave(0, 0, 0)", Scenes::busy, x -> x.leave(0, 0, 0));
+        Due.onlyAsks("leave(1, 1, 99)", Scenes::busy, x -> x.leave(1, 1, 99));
+        Due.onlyAsks("counters(0)", Scenes::busy, x -> x.counters(0));
+        Due.onlyAsks("game(0, 1, -1)", Scenes::busy, x -> x.game(0, 1, -1));
+        Due.onlyAsks("game(1, 0, 0)", Scenes::busy, x -> x.game(1, 0, 0));
+        Due.onlyAsks("leastMud(0, -1)", Scenes::busy, x -> x.leastMud(0, -1));
+        Due.onlyAsks("leastMud(1, 1)", Scenes::busy, x -> x.leastMud(1, 1));
+        Due.onlyAsks("moved(-1)", Scenes::busy, x -> x.moved(-1));
+        Due.onlyAsks("moved(0)", Scenes::busy, x -> x.moved(0));
+        Due.onlyAsks("span(0, 0)", Scenes::busy, x -> x.span(0, 0));
+        Due.onlyAsks("uncounted()", Scenes::busy, x -> x.uncounted());
+        Due.onlyAsks("votes(0)", Scenes::busy, x -> x.votes(0));
+        Due.onlyAsks("elected()", Scenes::busy, x -> x.elected());
+        Due.onlyAsks("spring(30, 1)", Scenes::busy, x -> x.spring(30, 1));
+        Due.onlyAsks("judge()", Scenes::busy, x -> x.judge());
+        Due.onlyAsks("told(8)", Scenes::busy, x -> x.told(8));
+        Due.onlyAsks("barn(0, 2)", Scenes::busy, x -> x.barn(0, 2));
+        Due.onlyAsks("fault()", Scenes::busy, x -> x.fault());
     }
 
     // ---- COUNT
@@ -46,12 +31,6 @@ public final class BoundsOfTrials {
     private static void count() {
         Due.sentence("COUNT of a COUNTY behind n YEARS (0 .. 60; RAIN as told): what = 0 SOULS, 1 SEATS, 2 MEN.");
         SwallowCount x = Due.landOf("t2 3 4;b0 40 10 0 0;b1 40 5 9 0;w5,9;");
-        Due.is("count(0, -1, 0)", x.count(0, -1, 0), OUTSIDE);
-        Due.is("count(0, 61, 0)", x.count(0, 61, 0), OUTSIDE);
-        Due.is("count(0, 0, -1)", x.count(0, 0, -1), OUTSIDE);
-        Due.is("count(0, 0, 3)", x.count(0, 0, 3), OUTSIDE);
-        Due.is("count(-1, 0, 0)", x.count(-1, 0, 0), UNKNOWN);
-        Due.is("count(2, 0, 0)", x.count(2, 0, 0), UNKNOWN);
         int[][] want = {{10, 3, 2}, {15, 5, 3}, {29, 9, 7}};
         for (int n = 0; n < want.length; n++) {
             for (int what = 0; what < 3; what++) {
@@ -66,6 +45,16 @@ public final class BoundsOfTrials {
         Due.is("from now: 60", x.count(1, 60, 0), 35);
         x.year(60);
         Due.is("as it comes then", x.count(1, 0, 0), 35);
+        Due.sentence("`int count(int c, int n, int what)`: COUNT. UNKNOWN, OUTSIDE.");
+        for (int n : new int[] {Due.LEAST, -1, 61, Due.MOST}) {
+            Due.is("count(0, " + n + ", 0)", x.count(0, n, 0), OUTSIDE);
+        }
+        for (int what : new int[] {Due.LEAST, -1, 3, Due.MOST}) {
+            Due.is("count(0, 0, " + what + ")", x.count(0, 0, what), OUTSIDE);
+        }
+        for (int c : new int[] {Due.LEAST, -1, 2, Due.MOST}) {
+            Due.is("count(" + c + ", 0, 0)", x.count(c, 0, 0), UNKNOWN);
+        }
     }
 
     // ---- LEAVE
@@ -73,10 +62,6 @@ public final class BoundsOfTrials {
     private static void leaveBounds() {
         Due.sentence("it has s SEATS or more (0 .. 99) and m MEN at most (0 .. 99)");
         SwallowCount x = Due.landOf("t1 1 30;b0 40 40 9 0;b0 40 40 9 0;b0 40 40 9 0;w0;");
-        for (int n : new int[] {Due.LEAST, -1, 100, Due.MOST}) {
-            Due.is("leave(0, " + n + ", 0)", x.leave(0, n, 0), OUTSIDE);
-            Due.is("leave(0, 0, " + n + ")", x.leave(0, 0, n), OUTSIDE);
-        }
         // 120 SOULS: 120 SEATS, 4 MEN; two BARNS: 80, 2; one: 40, 1; none: 0, 0
         Due.is("leave(0, 99, 99)", x.leave(0, 99, 99), 7);
         Due.is("leave(0, 99, 4)", x.leave(0, 99, 4), 7);
@@ -128,8 +113,15 @@ public final class BoundsOfTrials {
         Due.is("bits of its own alone", x.leave(0, 0, 99), 10);
         Due.is("of the other", x.leave(1, 0, 99), 5);
         Due.is("SHUT ones are OPEN by it", x.leave(0, 14, 14), 10);
-        Due.is("a COUNTY that there is not", x.leave(2, 0, 99), UNKNOWN);
-        Due.is("a COUNTY that there is not", x.leave(-1, 0, 99), UNKNOWN);
+        Due.sentence("`int leave(int c, int seats, int men)`: LEAVE; NONE. UNKNOWN, OUTSIDE.");
+        Due.is("NONE", x.leave(0, 99, 0), NONE);
+        for (int n : new int[] {Due.LEAST, -1, 100, Due.MOST}) {
+            Due.is("leave(0, " + n + ", 0)", x.leave(0, n, 0), OUTSIDE);
+            Due.is("leave(0, 0, " + n + ")", x.leave(0, 0, n), OUTSIDE);
+        }
+        for (int c : new int[] {Due.LEAST, -1, 2, Due.MOST}) {
+            Due.is("leave(" + c + ", 0, 99)", x.leave(c, 0, 99), UNKNOWN);
+        }
     }
 
     // ---- COUNTERS
@@ -145,9 +137,11 @@ public final class BoundsOfTrials {
         Due.is("counters(0)", x.counters(0), 3);
         Due.is("counters(1)", x.counters(1), 2);
         Due.is("without BARNS", x.counters(2), 0);
-        Due.is("counters(3)", x.counters(3), UNKNOWN);
-        Due.is("counters(-1)", x.counters(-1), UNKNOWN);
         Due.is("8 BARNS of 1", Due.landOf(Due.eightBarns("t1 1 1;", "b0 9 1 0 0;")).counters(0), 16);
+        Due.sentence("`int counters(int c)`: COUNTERS. UNKNOWN.");
+        for (int c : new int[] {Due.LEAST, -1, 3, Due.MOST}) {
+            Due.is("counters(" + c + ")", x.counters(c), UNKNOWN);
+        }
     }
 
     // ---- GAME
@@ -192,6 +186,10 @@ public final class BoundsOfTrials {
             Due.is("game(0, 1, " + i + ")", x.game(0, 1, i), pairs[i]);
         }
         Due.is("game(0, 1, 4)", x.game(0, 1, 4), NONE);
+        // as many BARNS as there can be, 4 for each: a deed is worth 8 less 1
+        x = Due.landOf("t2 1 1;" + "b0 40 10 2 0;b1 40 10 2 0;".repeat(4));
+        Due.is("8 BARNS", x.game(0, 1, NONE), 4);
+        Due.is("8 BARNS, the last", x.game(0, 1, 3), 22);
     }
 
     private static void gameByPools() {
@@ -239,6 +237,9 @@ public final class BoundsOfTrials {
         Due.is("6 of two", x.leastMud(0, NONE), NONE);
         x = Due.landOf("t1 27 1;b0 40 10 9 0;b0 40 10 9 0;w9;");
         Due.is("5 of two", x.leastMud(0, NONE), 5);
+        // a SEAT more than without: 12 SOULS are 4 SEATS already, 15 are 5
+        Due.is("the next SEAT", Due.landOf("t1 3 1;b0 40 10 3 0;").leastMud(0, NONE), 3);
+        Due.is("no next SEAT", Due.landOf("t1 12 1;b0 40 10 3 0;").leastMud(0, NONE), NONE);
         // FAR 0: none serves; without BARNS: none
         Due.is("FAR 0", Due.landOf("t1 1 1;b0 40 10 0 0;w7;").leastMud(0, NONE), NONE);
         Due.is("without BARNS", Due.landOf("t1 1 1;").leastMud(0, NONE), NONE);
@@ -252,6 +253,11 @@ public final class BoundsOfTrials {
         Due.is("2 together", x.leastMud(0, NONE), 2);
         Due.is("less ahead", x.leastMud(0, 0), 0);
         Due.is("more behind", x.leastMud(0, 1), 2);
+        // the last one is FAR by 0: 14 and 15 is 29, 30 is a SEAT more
+        x = Due.landOf("t1 30 1;b0 40 10 1 0;b0 40 10 0 0;");
+        Due.is("1 together", x.leastMud(0, NONE), 1);
+        Due.is("for the first", x.leastMud(0, 0), 1);
+        Due.is("none for the last", x.leastMud(0, 1), 0);
         // RAIN 5: 11, 11, 0, 11, 14 is 47, 48 is a SEAT more
         x = Due.landOf("t1 16 1;b0 40 10 4 0;b0 40 10 4 0;b0 40 0 1 0;b0 40 10 4 0;b0 40 10 1 0;");
         Due.is("1 together", x.leastMud(0, NONE), 1);
@@ -304,8 +310,10 @@ public final class BoundsOfTrials {
         Due.is("votes(0)", x.votes(0), 5);
         Due.is("votes(1)", x.votes(1), 9);
         Due.is("without BARNS", x.votes(2), 0);
-        Due.is("votes(3)", x.votes(3), UNKNOWN);
-        Due.is("votes(-1)", x.votes(-1), UNKNOWN);
+        Due.sentence("`int votes(int c)`: VOTES. UNKNOWN.");
+        for (int c : new int[] {Due.LEAST, -1, 3, Due.MOST}) {
+            Due.is("votes(" + c + ")", x.votes(c), UNKNOWN);
+        }
         x = Due.landOf(Due.eightBarns("t1 1 1;", "b0 40 40 9 0;"));
         for (int b = 0; b < 8; b++) {
             x.ring(b, 40);

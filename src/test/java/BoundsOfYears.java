@@ -34,6 +34,12 @@ public final class BoundsOfYears {
         Due.is("all of 8 are SHUT", x.told(7), 255);
     }
 
+    private static void kinds() {
+        Due.sentence("KINDS of BARNS: 0 plain, 1 CAT, 2 GLAZED, 3 MILL.");
+        // RAIN 7, 10 NESTS: 7 YOUNG; 3 taken and 4 YOUNG; none; 7 and 3
+        yearIs(Due.landOf("t1 1 1;b0 40 10 0 0;b0 40 10 0 1;b0 40 10 0 2;b0 40 10 0 3;w7;"), 3, 17, 11, 10, 20);
+    }
+
     private static void cats() {
         Due.sentence("(a) a CAT takes NESTS / 3 (LOST).");
         String text = "t1 1 1;b0 9 0 9 1;b0 9 1 9 1;b0 9 2 9 1;b0 9 3 9 1;b0 9 4 9 1;b0 9 5 9 1;b0 9 6 9 1;b0 40 40 9 1;w0;";
@@ -88,6 +94,9 @@ public final class BoundsOfYears {
         // lesser than the one that they come from, and greater
         yearIs(shutting("t1 1 1;b0 5 0 9 0;b0 9 5 9 0;b0 5 0 9 0;w0;", 1), 0, 5, 0, 0);
         yearIs(shutting("t1 1 1;b0 5 0 9 0;b0 9 6 9 0;b0 5 0 9 0;w0;", 1), 0, 5, 0, 1);
+        // those above EAVES, too
+        yearIs(Due.landOf("t1 1 1;b0 1 0 9 0;b0 14 10 0 0;"), 0, 1, 14);
+        yearIs(Due.landOf("t1 1 1;b0 2 0 9 0;b0 14 12 0 0;b0 9 0 9 0;"), 0, 2, 14, 2);
         // of two BARNS together
         yearIs(shutting("t1 1 1;b0 5 3 9 0;b0 5 4 9 0;b0 9 0 9 0;w0;", 0, 1), 0, 0, 0, 7);
         // SHUT, full, without EAVES, of another COUNTY: none of these takes any
@@ -360,6 +369,7 @@ public final class BoundsOfYears {
             Due.nests(x, 10 + more, 10 + rain + more);
             Due.is("THE SEED behind " + seed, x.seed(0), (int) next(seed));
         }
+        Due.sentence("n YEARS, each of RAIN a DRAW of 10.");
         SwallowCount x = Due.landOf("t1 1 1;");
         long seed = 2147483647;
         x.seed((int) seed);
@@ -471,6 +481,7 @@ public final class BoundsOfYears {
 
     public static void main(String[] args) {
         openAtFirst();
+        kinds();
         cats();
         shutOnes();
         young();

@@ -743,7 +743,15 @@ public final class ModelRuns {
 
     // ---------------------------------------------------------------- the runs
 
+    /** Nothing is promised of an object behind so many calls. */
+    private static final int MOST_CALLS = 512;
+    /** What lookAtAll() takes of these at most: told() and 9 answers for each of 8 BARNS and 2 that there are not. */
+    private static final int CALLS_TO_LOOK = 17 + 10 * 9;
+    private static final int CALLS_TO_GROW_OLD = 180;
+    private static final int CALLS_OF_A_STEP = 31;
+
     private static int wrong = 0;
+    private static int callsOfRun = 0;
     private static final Map<String, Integer> ANSWERS = new TreeMap<>();
     private static final StringBuilder TRACE = new StringBuilder();
 
@@ -752,6 +760,7 @@ public final class ModelRuns {
         String sort = want == NONE ? "NONE" : want == UNKNOWN ? "UNKNOWN" : want == OUTSIDE ? "OUTSIDE"
             : want == NOT ? "NOT" : want == FULL ? "FULL" : want == 0 ? "0" : want < 0 ? "FAULT" : "more";
         ANSWERS.merge(name + " " + sort, 1, Integer::sum);
+        callsOfRun++;
         TRACE.append("  ").append(call).append(" = ").append(want).append('\n');
         if (got != want) {
             wrong++;
@@ -760,6 +769,16 @@ public final class ModelRuns {
                 System.out.println("the run up to there:\n" + TRACE);
             }
         }
+    }
+
+    private static void beginRun() {
+        TRACE.setLength(0);
+        callsOfRun = 0;
+    }
+
+    /** So many calls more, and a look at all, are within what is promised. */
+    private static boolean room(int calls) {
+        return callsOfRun + calls + CALLS_TO_LOOK <= MOST_CALLS;
     }
 
     private static void landIn(SwallowCount x, Model y, String text) {
@@ -874,7 +893,7 @@ public final class ModelRuns {
                 due("write(" + c + ", " + n + ")", x.write(c, n), y.enter(y.book, c, n, 320, 15, !y.noCounty(c)));
                 break;
             }
-            case 7: if (oneOf(3)) { due("tear()", x.tear(), y.tear()); } break;
+            case 7: if (oneOf(8)) { due("tear()", x.tear(), y.tear()); } break;
             default: due("judge()", x.judge(), y.judge()); break;
         }
     }
@@ -931,17 +950,17 @@ public final class ModelRuns {
         }
     }
 
-    private static void oneRun(int calls) {
-        TRACE.setLength(0);
+    private static void oneRun() {
+        beginRun();
         SwallowCount x = new SwallowCount();
         Model y = new Model();
         if (!oneOf(20)) {
             landIn(x, y, goodText());
         }
-        if (oneOf(25)) {
+        if (oneOf(25) && room(CALLS_TO_GROW_OLD)) {
             growOld(x, y);
         }
-        for (int k = 0; k < calls && wrong < 5; k++) {
+        for (int k = 0; k < MOST_CALLS && wrong < 5 && room(CALLS_OF_A_STEP); k++) {
             int sort = draw(40);
             if (sort < 16) {
                 oneDone(x, y);
@@ -951,19 +970,26 @@ public final class ModelRuns {
                 oneSeen(x, y);
             } else if (sort < 39) {
                 oneOther(x, y);
-            } else if (oneOf(6)) {
-                landIn(x, y, oneOf(2) ? spoiled(goodText()) : goodText());
+            } else if (oneOf(3)) {
+                String text = oneOf(2) ? spoiled(goodText()) : goodText();
+                if (room(text.length() + 2)) {
+                    landIn(x, y, text);
+                }
             }
-            if (k % 7 == 0) {
+            if (k % 40 == 20 && room(CALLS_TO_LOOK)) {
                 lookAtAll(x, y);
             }
         }
         lookAtAll(x, y);
+        if (callsOfRun > MOST_CALLS) {
+            wrong++;
+            System.out.println("a run of " + callsOfRun + " calls");
+        }
     }
 
     private static void textsAlone() {
         for (int k = 0; k < 3000 && wrong < 5; k++) {
-            TRACE.setLength(0);
+            beginRun();
             SwallowCount x = new SwallowCount();
             Model y = new Model();
             landIn(x, y, oneOf(10) ? goodText() : spoiled(goodText()));
@@ -990,11 +1016,11 @@ public final class ModelRuns {
     }
 
     public static void main(String[] args) {
-        int runs = args.length > 0 ? Integer.parseInt(args[0]) : 300;
+        int runs = args.length > 0 ? Integer.parseInt(args[0]) : 2000;
         draws = args.length > 1 ? Long.parseLong(args[1]) : draws;
         textsAlone();
         for (int k = 0; k < runs && wrong < 5; k++) {
-            oneRun(400);
+            oneRun();
         }
         whatMustHaveCome();
         System.out.println(wrong == 0 ? "all answers are as due" : wrong + " answers are not as due");
