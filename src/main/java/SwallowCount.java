@@ -573,29 +573,32 @@ public final class SwallowCount {
         }
         Arrays.fill(mudTried, 0);
         for (int together = 1; together <= MOST_MUD_TRIED; together++) {
-            if (sharesServe(c, 0, together, wanted)) {
+            if (sharesServe(this, c, 0, together, wanted)) {
                 return together;
             }
         }
         return NONE;
     }
 
-    /** Shares what is left of MUD among BARNS from b on, less ahead; b grows with the depth. */
-    private boolean sharesServe(int c, int b, int left, int wanted) {
+    /**
+     * Shares what is left of MUD among BARNS from b on, less ahead; b grows with the depth. Static, since LANGUAGE.md lets
+     * a private static method call itself and names no other one that does.
+     */
+    private static boolean sharesServe(SwallowCount of, int c, int b, int left, int wanted) {
         if (left == 0) {
-            return seatsWithMud(c) >= wanted;
+            return of.seatsWithMud(c) >= wanted;
         }
-        if (b >= land.barns) {
+        if (!of.land.hasBarn(b)) {
             return false;
         }
-        int most = Math.min(left, usefulMud(c, b));
+        int most = Math.min(left, of.usefulMud(c, b));
         for (int share = 0; share <= most; share++) {
-            mudTried[b] = share;
-            if (sharesServe(c, b + 1, left - share, wanted)) {
+            of.mudTried[b] = share;
+            if (sharesServe(of, c, b + 1, left - share, wanted)) {
                 return true;
             }
         }
-        mudTried[b] = 0;
+        of.mudTried[b] = 0;
         return false;
     }
 

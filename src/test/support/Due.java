@@ -42,7 +42,8 @@ final class Due {
         current = words;
     }
 
-    private static String document() {
+    /** DOC.md, each run of blanks and ends of lines as one blank. */
+    static String document() {
         if (document == null) {
             try {
                 document = Files.readString(Path.of("../shared/DOC.md")).replaceAll("\\s+", " ");
@@ -57,6 +58,13 @@ final class Due {
         if (got != want) {
             wrong++;
             System.out.println((current.isEmpty() ? "" : "[" + current + "] ") + call + " answered " + got + ", due is " + want);
+        }
+    }
+
+    static void must(boolean holds, String what) {
+        if (!holds) {
+            wrong++;
+            System.out.println("[" + current + "] not so: " + what);
         }
     }
 
